@@ -642,7 +642,8 @@ public final class EggMinute {
             // a KIND told again bears no better than before
             if ((tried & 1 << kind) == 0) {
                 tried |= 1 << kind;
-                int differ = differBetweenBoxes(doingOf(kind, figure), seconds);
+                Doing doing = doingOf(kind, figure);
+                int differ = Math.abs(middlePeak(doing, COLD_BOX, seconds) - middlePeak(doing, WARM_BOX, seconds));
                 if (differ < leastDiffer) {
                     leastDiffer = differ;
                     best = place;
@@ -650,10 +651,6 @@ public final class EggMinute {
             }
         }
         return best;
-    }
-
-    private int differBetweenBoxes(Doing doing, int seconds) {
-        return Math.abs(middlePeak(doing, COLD_BOX, seconds) - middlePeak(doing, WARM_BOX, seconds));
     }
 
     private int middlePeak(Doing doing, int box, int seconds) {
@@ -795,11 +792,6 @@ public final class EggMinute {
             return i < figures[Y];
         }
 
-        private int passesOf(int i) {
-            int pass = figures[PASS];
-            return isYolk(i) ? pass : pass + pass / 2;
-        }
-
         void cook(Doing doing, int seconds) {
             for (int i = 0; i < seconds; i++) {
                 cookSecond(doing);
@@ -814,15 +806,21 @@ public final class EggMinute {
         }
 
         private void letWarmthPass(int pot) {
+            int yolkPasses = figures[PASS];
+            int whitePasses = yolkPasses + yolkPasses / 2;
             int last = figures[SHELLS] - 1;
             int fromInside = 0;
+            int passes = yolkPasses;
             for (int i = 0; i < last; i++) {
-                int fromOutside = passesOf(i + 1) * (warmths[i + 1] - warmths[i]) / 100;
+                // where two touch, the outer one's count
+                passes = isYolk(i + 1) ? yolkPasses : whitePasses;
+                int fromOutside = passes * (warmths[i + 1] - warmths[i]) / 100;
                 warmths[i] += fromInside + fromOutside;
                 // cutting toward 0 makes what one gets just what its neighbour gives
                 fromInside = -fromOutside;
             }
-            warmths[last] += fromInside + passesOf(last) * (pot - warmths[last]) / 100;
+            // there are two SHELLS or more: passes are the outmost's own by now
+            warmths[last] += fromInside + passes * (pot - warmths[last]) / 100;
         }
 
         private void noteShells() {

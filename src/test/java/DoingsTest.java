@@ -153,6 +153,7 @@ public final class DoingsTest {
     x.keep(1, 1, 1, 0);
     x.keep(2, 1, 0, 0);
     x.go(1, 3);
+    check.due("the greatest peak of a fresh egg may be 0", Check.eggOf("b0;").state(5), 0);
     check.due("second", x.state(0), 3);
     check.due("all warmths", x.state(1), 388);
     check.due("greatest peak", x.state(5), 332);

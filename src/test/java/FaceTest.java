@@ -24,7 +24,7 @@ public final class FaceTest {
     Set<String> seen = new TreeSet<>();
     for (Method m : c.getDeclaredMethods()) {
       if (Modifier.isPublic(m.getModifiers())) {
-        String types = Arrays.stream(m.getParameterTypes()).map(Class::getName).reduce((a, b) -> a + "," + b).orElse("");
+        String types = String.join(",", Arrays.stream(m.getParameterTypes()).map(Class::getName).toList());
         seen.add(m.getReturnType().getName() + " " + m.getName() + "(" + types + ")");
         names.add(m.getName());
         check.dueTrue(m + " isn't static", !Modifier.isStatic(m.getModifiers()));
@@ -41,7 +41,8 @@ public final class FaceTest {
     }
     for (java.lang.reflect.Field f : c.getDeclaredFields()) {
       check.dueTrue(f + " is private", Modifier.isPrivate(f.getModifiers()));
-      check.dueTrue(f + " is no static state", !Modifier.isStatic(f.getModifiers()) || Modifier.isFinal(f.getModifiers()));
+      boolean changing = Modifier.isStatic(f.getModifiers()) && !Modifier.isFinal(f.getModifiers());
+      check.dueTrue(f + " is no static state", !changing);
     }
     Constructor<?>[] made = c.getDeclaredConstructors();
     check.due("one constructor", made.length, 1);
