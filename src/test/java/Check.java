@@ -9,7 +9,11 @@ final class Check {
   }
 
   void due(String call, long got, long want) {
-    if (got == want) {
+    dueText(call, Long.toString(got), Long.toString(want));
+  }
+
+  void dueText(String call, String got, String want) {
+    if (got.equals(want)) {
       right++;
     } else {
       wrong++;
