@@ -9,6 +9,7 @@ public final class HowMuchEdgesTest {
     bearsKinds();
     bearsFirstOfSeveral();
     bearsByBoxes();
+    bearsByJustTheseBoxes();
     offShelf();
     offRanges();
     offRefusals();
@@ -37,6 +38,7 @@ public final class HowMuchEdgesTest {
     judgeReadings();
     judgeSkips();
     judgeLongest();
+    inMindAnew();
     check.end();
   }
 
@@ -121,6 +123,20 @@ public final class HowMuchEdgesTest {
           check.due("13: BOX stays", x.count(2), box);
         }
       }
+    }
+  }
+
+  /** Eggs for which a BOX one less or one more on either side would be answered otherwise. */
+  private static void bearsByJustTheseBoxes() {
+    String[] texts = {"n4;y4;p15;", "n4;y5;p7;", "n6;y6;p22;", "n5;y4;p10;", "n2;y2;p3;"};
+    int[][] kinds = {{4, 3}, {3, 6}, {6, 4}, {5, 7}, {7, 5}};
+    int[] figures = {44, 41, 17, 19, 12};
+    int[] seconds = {55, 169, 132, 181, 73};
+    int[] due = {0, 1, 1, 0, 0};
+    for (int i = 0; i < texts.length; i++) {
+      script("13: BOX 40 and BOX 200, no other").text(7, texts[i]).due("egg(7) = 3").numbers(2, 0, kinds[i]).due(
+          "bears(2, " + figures[i] + ", " + seconds[i] + ") = " + due[i], "set(2, 300) = 50",
+          "bears(2, " + figures[i] + ", " + seconds[i] + ") = " + due[i]).end();
     }
   }
 
@@ -295,6 +311,9 @@ public final class HowMuchEdgesTest {
     script("20: any SPIN").due("told(MIN, 0, true) = -4", "told(MIN, 40, false) = -4", "told(MAX, 0, false) = -4",
         "told(MAX, 40, true) = -4", "told(-2147483609, 40, true) = -4", "told(2147483607, 40, false) = -4",
         "told(0, 0, true) = -4", "told(-1, 0, true) = -4").end();
+    // a difference that wraps around to the least int would have no size
+    script("20: no SPIN wraps around").due("told(-2147483608, 0, true) = -4", "told(-2147483608, 40, false) = -4",
+        "told(-2147483620, 0, true) = -4", "told(-2147483614, 0, false) = -4", "told(-2147483648, 0, true) = -4").end();
   }
 
   private static void toldEdges() {
@@ -373,5 +392,16 @@ public final class HowMuchEdgesTest {
     small("21: 100 readings").due("keep(1, 1, 4, 9) = 0").numbers(2, 1, readings).due("judge(1, 1, 2) = -4",
         "put(2, 99, " + (readings[99] + 1) + ") = 0", "judge(1, 1, 2) = 99", "put(2, 99, -32768) = 0", "judge(1, 1, 2) = -4",
         "put(2, 0, " + (readings[0] - 1) + ") = 0", "judge(1, 1, 2) = 0").end();
+  }
+
+  /** What one call had in mind, with other SHELLS or another BOX, is nothing to the next. */
+  private static void inMindAnew() {
+    Script s = small("in mind, each time anew").numbers(2, 1, 255, 255, 22, 22).numbers(3, 0, 5, 1).numbers(4, 1, 0, 22, 56);
+    for (String other : new String[] {"table(1, 12, 9) = 0", "size(1, 12, 0) = 1", "bears(3, 0, 600) = 1"}) {
+      s.due(other, "off(1, 2) = -22", other, "least(1, 2) = 2", other, "near(1, 2, 1, 0) = 127", other,
+          "found(2, 9, 0) = 1", other, "judge(0, 1, 4) = -4", other, "table(1, 2, 3) = 56", other, "size(1, 2, 56) = 3",
+          other, "spin() = 36", "had(2) = 0", "shell(1, 0) = 0", "go(1, 1) = 1", "shell(1, 0) = 150", "fresh() = 2");
+    }
+    s.end();
   }
 }
