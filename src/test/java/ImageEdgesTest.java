@@ -45,7 +45,8 @@ public final class ImageEdgesTest {
     script("23: RESTORED all is as it was then").text(0, "n2;y12;b300;p30;a60;i20;").due("egg(0) = 6", "keep(1, 1, 1, 0) = 0",
         "keep(2, 1, 5, 0) = 0", "go(1, 60) = 60", sets, green, "image() = 60").text(0,
         "n12;y1;b0;p1;a0;i0;").due("egg(0) = 6", "go(1, 30) = 30", "restore() = 60", "count(0) = 2", "count(1) = 2",
-        "count(2) = 300", "count(3) = 30", "count(4) = 60", "count(5) = 20", "state(0) = 60", sets, green, "go(2, 10) = 70", "restore() = 60", "set(1, 12) = 12", "state(0) = 0", "restore() = 60",
+        "count(2) = 300", "count(3) = 30", "count(4) = 60", "count(5) = 20", "state(0) = 60", sets, green,
+        "go(2, 10) = 70", "restore() = 60", "set(1, 12) = 12", "state(0) = 0", "restore() = 60",
         "shell(2, 0) = -1").end();
   }
 

@@ -253,7 +253,8 @@ public final class ShelfEdgesTest {
       }
       s.end();
     }
-    script("30: it may be below 0").due("keep(1, 1, 5, 13) = 0", "weight(1) = 0", "keep(1, 1, 5, 14) = 0", "weight(1) = -1").end();
+    script("30: it may be below 0").due("keep(1, 1, 5, 13) = 0", "weight(1) = 0", "keep(1, 1, 5, 14) = 0", "weight(1) = -1")
+        .end();
   }
 
   private static void tossRefusals() {
