@@ -34,8 +34,9 @@ public final class HowMuchTest {
     check.due("bears, boiled", bearsOf(x, 0, 600, 5, 5, 1, 1), 2);
     int[] kinds = {5, 0, 3, 2, 4, 6, 7, 1, 0, 5};
     for (int figure = 0; figure <= 60; figure += 12) {
+      EggMinute other = new EggMinute();
       for (int n = 50; n <= 600; n += 110) {
-        check.due("bears of all", bearsOf(x, figure, n, kinds), new PlainEgg().bears(kinds, figure, n));
+        check.due("bears of all", bearsOf(other, figure, n, kinds), new PlainEgg().bears(kinds, figure, n));
       }
     }
     int[] hundred = new int[100];

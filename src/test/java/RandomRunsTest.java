@@ -3,7 +3,9 @@ import java.util.Random;
 /** Runs of calls drawn with a fixed seed, each answer looked up in PlainEgg. */
 public final class RandomRunsTest {
   private static final Check check = new Check("RandomRunsTest");
-  private static final int RUNS = 250;
+  private static final int RUNS = 500;
+  /** A part makes at most 148 calls, and an object need not answer behind 512. */
+  private static final int PARTS = 3;
   private static final int[] LEAST = {2, 0, 0, 1, 0, 0};
   private static final int[] MOST = {12, 12, 300, 30, 60, 20};
   private final Random random;
@@ -29,7 +31,7 @@ public final class RandomRunsTest {
   }
 
   private void run() {
-    for (int part = 0; part < 6; part++) {
+    for (int part = 0; part < PARTS; part++) {
       drawFigures();
       drawDoing();
       drawWant();

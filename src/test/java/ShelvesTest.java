@@ -177,14 +177,15 @@ public final class ShelvesTest {
   }
 
   private static void weight() {
-    EggMinute x = new EggMinute();
     for (int figure = 0; figure <= 60; figure++) {
+      EggMinute x = new EggMinute();
       int[] due = {3, 13, 13 + figure, 3 * figure, 26, 13 - figure, 39, 6 + figure};
       for (int kind = 0; kind < 8; kind++) {
         x.keep(kind, 1, kind, figure);
         check.due("weight of kind " + kind + ", figure " + figure, x.weight(kind), due[kind]);
       }
     }
+    EggMinute x = new EggMinute();
     check.due("weight(-1)", x.weight(-1), -1000000001);
     check.due("weight(8)", x.weight(8), -1000000001);
     x.keep(0, 0, 0, 0);
@@ -194,14 +195,17 @@ public final class ShelvesTest {
   }
 
   private static void toss() {
-    EggMinute x = new EggMinute();
     for (int figure = 0; figure <= 60; figure++) {
+      EggMinute x = new EggMinute();
       int[] due = {figure, figure, figure, -15, 100 + figure, figure, figure, 206 + figure};
       for (int kind = 0; kind < 8; kind++) {
         x.keep(kind, 1, kind, figure);
         check.due("toss of kind " + kind + ", figure " + figure, x.toss(kind), figure == 0 ? -15 : due[kind]);
       }
     }
+    EggMinute x = new EggMinute();
+    x.keep(7, 1, 7, 60);
+    check.due("toss of a HIGH one", x.toss(7), 266);
     check.due("toss leaves the doing", x.weight(7), 66);
     check.due("toss(-1)", x.toss(-1), -1);
     check.due("toss(8)", x.toss(8), -1);

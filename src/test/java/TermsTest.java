@@ -239,11 +239,13 @@ public final class TermsTest {
     for (int figure = 0; figure <= 60; figure++) {
       EggMinute x = egg(2, 0, 300, 30);
       x.keep(1, 1, 3, figure);
-      for (int s = 0; s < 100; s++) {
+      for (int s = 0; s < 95; s++) {
         x.go(1, 1);
-        int loose = (x.shell(0, 2) < 100 ? 1 : 0) + (x.shell(1, 2) < 100 ? 1 : 0);
-        below |= x.shell(0, 2) == 99 || x.shell(1, 2) == 99;
-        just |= x.shell(0, 2) == 100 || x.shell(1, 2) == 100;
+        int inner = x.shell(0, 2);
+        int outer = x.shell(1, 2);
+        int loose = (inner < 100 ? 1 : 0) + (outer < 100 ? 1 : 0);
+        below |= inner == 99 || outer == 99;
+        just |= inner == 100 || outer == 100;
         check.due("loose", x.state(4), loose);
         check.due("spin", x.spin(), 40 - 2 * loose);
       }

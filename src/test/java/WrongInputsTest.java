@@ -6,26 +6,37 @@ import java.util.Random;
  */
 public final class WrongInputsTest {
   private static final Check check = new Check("WrongInputsTest");
-  private static final int CALLS = 512;
+  private static final int RUNS = 400;
+  /** So many that with those that look at the object in the end there are 512. */
+  private static final int CALLS = 500;
+  private static final long THROWN = -1;
   private static final int[] ODD = {Integer.MIN_VALUE, Integer.MIN_VALUE + 1, -1000, -2, -1, 61, 100, 101, 300, 301,
     600, 601, 1200, 1201, 9999, 10000, 1 << 16, Integer.MAX_VALUE - 1, Integer.MAX_VALUE};
 
   public static void main(String[] args) {
-    for (int run = 0; run < 120; run++) {
-      long first = answers(run);
-      check.due("run " + run + " again", answers(run), first);
+    for (int run = 0; run < RUNS; run++) {
+      run(run);
     }
     check.end();
   }
 
-  private static long answers(int run) {
+  /** The other object gets those calls alone that weren't refused, and must answer just the same. */
+  private static void run(int run) {
     Random random = new Random(run);
     EggMinute x = new EggMinute();
-    long all = 0;
+    EggMinute other = new EggMinute();
     for (int i = 0; i < CALLS; i++) {
-      all = all * 31 + call(x, random);
+      int which = random.nextInt(31);
+      int[] arguments = {any(random), any(random), any(random), any(random), any(random)};
+      long answer = answerOrThrown(x, which, arguments);
+      if (answer >= 0) {
+        check.due("run " + run + ", call " + i + " beside refused ones", answerOrThrown(other, which, arguments), answer);
+      }
     }
-    return all;
+    for (int what = 0; what < 6; what++) {
+      check.due("run " + run + ", state " + what, x.state(what), other.state(what));
+      check.due("run " + run + ", count " + what, x.count(what), other.count(what));
+    }
   }
 
   private static int any(Random random) {
@@ -33,40 +44,17 @@ public final class WrongInputsTest {
     return which == 0 ? ODD[random.nextInt(ODD.length)] : which < 3 ? random.nextInt(61) : random.nextInt(9);
   }
 
-  private static long call(EggMinute x, Random random) {
-    int which = random.nextInt(31);
-    int a = any(random);
-    int b = any(random);
-    int c = any(random);
-    int d = any(random);
-    int e = any(random);
-    long before = state(x);
-    long answer;
+  private static long answerOrThrown(EggMinute x, int which, int[] a) {
     try {
-      answer = answer(x, which, new int[] {a, b, c, d, e});
+      return answer(x, which, a);
     } catch (IllegalArgumentException thrown) {
-      check.dueTrue("only element throws IllegalArgumentException", which == 26 && (a < 0 || a > 7));
-      answer = -1;
+      check.dueTrue("only element throws IllegalArgumentException", which == 26 && (a[0] < 0 || a[0] > 7));
     } catch (IllegalStateException thrown) {
-      check.dueTrue("only element throws IllegalStateException", which == 26 && a >= 0 && a <= 7);
-      answer = -1;
+      check.dueTrue("only element throws IllegalStateException", which == 26 && a[0] >= 0 && a[0] <= 7);
     } catch (RuntimeException thrown) {
       check.dueTrue("call " + which + " threw " + thrown, false);
-      answer = -1;
     }
-    if (answer < 0) {
-      check.due("refused call " + which + " changed the egg", state(x), before);
-    }
-    return answer;
-  }
-
-  private static long state(EggMinute x) {
-    long all = 0;
-    for (int what = 0; what < 6; what++) {
-      all = all * 10007 + x.state(what);
-      all = all * 10007 + x.count(what);
-    }
-    return all;
+    return THROWN;
   }
 
   private static long answer(EggMinute x, int which, int[] a) {
